@@ -71,6 +71,13 @@ final class PromiseTests {
         }
     }
 
+    private static void undoAll() {
+        for (int i = 0; i < 14; i++) {
+            x.undo();
+        }
+        due("acts left after 14 undone", x.count(11), 0);
+    }
+
     private static void newObject() {
         begin(1, null);
         int[] counts = {0, 0, 1, 8, 2, 0, 0, 0, 0, 0, 0, 0, 0};
@@ -571,9 +578,7 @@ final class PromiseTests {
                 default: askAll(1, 5, 6, 7); break;
             }
             Check.that("promise 16: act " + i + " does something", !image().equals(start));
-            while (x.count(11) > 0) {
-                x.undo();
-            }
+            undoAll();
             Check.that("promise 16: act " + i + " is undone", image().equals(start));
         }
         due("slots are left", x.again(0), 2);
@@ -950,9 +955,7 @@ final class PromiseTests {
             cost += x.plan(v % 2, 1, v / 8 % 32);
             x.ask(v % 2, v / 8 % 32);
         }
-        while (x.count(11) > 0) {
-            x.undo();
-        }
+        undoAll();
         due("eight steps", x.drawn(8), cost);
     }
 
