@@ -32,7 +32,9 @@ final class ModelTests {
         while (calls < CALLS && agree) {
             if (random.nextInt(120) == 0) {
                 text(random.nextInt(3) == 0 ? validText() : brokenText());
-                call("fault");
+                if (calls < CALLS) {
+                    call("fault");
+                }
             } else {
                 call(pick("fault net proxy proxy proxy page page counter counter hash says says ask ask ask ask ask ask"
                         + " ask drop drop drop send threshold use undo undo weight best plan plan order judge judge see"

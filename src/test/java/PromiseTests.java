@@ -563,12 +563,12 @@ final class PromiseTests {
     }
 
     private static void undoEachAct() {
-        begin(16, "N081h10h23p32p33s001s002s103");
-        x.keep(0);
-        x.see(0, 0, 1);
-        x.seed(9);
-        String start = image();
         for (int i = 0; i < 6; i++) {
+            begin(16, "N081h10h23p32p33s001s002s103");
+            x.keep(0);
+            x.see(0, 0, 1);
+            x.seed(9);
+            String start = image();
             switch (i) {
                 case 0: x.ask(0, 3); break;
                 case 1: x.drop(0, 2); break;
@@ -580,27 +580,14 @@ final class PromiseTests {
             Check.that("promise 16: act " + i + " does something", !image().equals(start));
             undoAll();
             Check.that("promise 16: act " + i + " is undone", image().equals(start));
+            due("slots are left", x.again(0), 2);
+            due("observations are left", x.count(12), 1);
+            due("the seed is left", x.seed(0), 9);
         }
-        due("slots are left", x.again(0), 2);
-        due("observations are left", x.count(12), 1);
-        due("the seed is left", x.seed(0), 9);
     }
 
-    /** All that acts change, as a text. */
     private static String image() {
-        StringBuilder text = new StringBuilder();
-        for (int i = 5; i < 11; i++) {
-            text.append(x.count(i)).append(' ');
-        }
-        for (int i = 0; i < x.count(1); i++) {
-            for (int j = 0; j < 8; j++) {
-                text.append(x.proxy(i, j)).append(' ').append(x.page(i, j)).append(' ');
-            }
-            for (int j = 0; j < x.count(3); j++) {
-                text.append(x.counter(i, j)).append(' ');
-            }
-        }
-        return text.toString();
+        return Image.ofNet(x);
     }
 
     private static void weight() {
