@@ -210,8 +210,8 @@ final class ActEdges extends Edge {
         due("no cells", x.send(1), 0);
         x.drop(0, 15);
         due("no cells any more", x.send(0), 0);
-        edge("sending", "it becomes the set of the cells that its filter has now, the number of changes becomes 0",
-                "N081h10p99p99");
+        edge("sending", "it becomes the set of the cells that its filter has now, the number of changes of the proxy"
+                + " becomes 0", "N081h10p99p99");
         x.ask(0, 7);
         x.ask(1, 6);
         due("send", x.send(0), 1 << 7);
@@ -223,8 +223,8 @@ final class ActEdges extends Edge {
 
     private static void thresholdReached() {
         for (int t = 1; t <= 9; t++) {
-            edge("asking", "each proxy whose number of changes is at least its threshold sends its summary",
-                    "N161h10p9" + t + "p99");
+            edge("asking", "each proxy, in ascending order, whose number of changes is at least its threshold sends its"
+                    + " summary", "N161h10p9" + t + "p99");
             for (int i = 0; i < t - 1; i++) {
                 x.ask(0, i);
             }
@@ -236,8 +236,8 @@ final class ActEdges extends Edge {
             due("messages", x.count(9), 1);
             due("its summary is new", x.proxy(0, 4), (1 << (t - 1)) - 1 | 1 << 15);
         }
-        edge("dropping", "each proxy whose number of changes is at least its threshold sends its summary",
-                "N161h10p92p99p99s000s001");
+        edge("dropping", "each proxy, in ascending order, whose number of changes is at least its threshold sends its"
+                + " summary", "N161h10p92p99p99s000s001");
         x.drop(0, 0);
         due("below", x.count(9), 0);
         x.drop(0, 1);
@@ -275,8 +275,8 @@ final class ActEdges extends Edge {
     }
 
     private static void thresholdLowered() {
-        edge("thresholds", "after a threshold is set, each proxy whose number of changes is at least its threshold sends",
-                "N081h10p95p99");
+        edge("thresholds", "after a threshold is set, each proxy, in ascending order, whose number of changes is at least"
+                + " its threshold sends its summary", "N081h10p95p99");
         askAll(0, 0, 1, 2);
         due("one above the changes", x.threshold(0, 4), 5);
         due("not sent", x.proxy(0, 3), 3);

@@ -281,7 +281,8 @@ final class FilterEdges extends Edge {
     }
 
     private static void noCells() {
-        edge("filters", "A set of cells contains a page if its cells are in the set: an empty set", "N041h10p99");
+        edge("filters", "A set of cells contains a page if the cells of the page by all hash functions of the present"
+                + " family are in the set: an empty set", "N041h10p99");
         for (int page = 0; page < 32; page++) {
             due("summary, page " + page, x.says(0, page, false), 0);
             due("filter, page " + page, x.says(0, page, true), 0);

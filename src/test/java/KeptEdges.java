@@ -321,7 +321,7 @@ final class KeptEdges extends Edge {
         holds("much is changed", !Image.ofNet(x).equals(before));
         x.again(0);
         holds("all is as it was", Image.ofNet(x).equals(before));
-        edge("promise 29", "keep() is no act", "N041p99");
+        edge("promise 29", "Each successful call of ask(), drop(), send(), threshold() and use() is an act: keep() is none", "N041p99");
         x.ask(0, 0);
         x.keep(0);
         due("acts", x.count(11), 1);
@@ -340,7 +340,7 @@ final class KeptEdges extends Edge {
     }
 
     private static void countEnds() {
-        edge("promise 31", "the least and the greatest numbers", "N041");
+        edge("promise 31", "Returns a number: the least and the greatest ones", "N041");
         int[] least = {4, 0, 1, 4, 1, 0, 0, 0, 0, 0, 0, 0, 0};
         for (int what = 0; what < least.length; what++) {
             due("count(" + what + ") of N041", x.count(what), least[what]);

@@ -30,7 +30,7 @@ final class QuestionEdges extends Edge {
     }
 
     private static void weights() {
-        edge("promise 17", "The estimate is w, w * w or w * w * w, as K is 1, 2 or 3", null);
+        edge("promise 17", "The estimate is w, w * w or w * w * w (multiplied from the left), as K is 1, 2 or 3", null);
         for (int k = 1; k <= 3; k++) {
             another("N04" + k + "h10p99p99");
             weightIs(0, 0f);
@@ -42,7 +42,7 @@ final class QuestionEdges extends Edge {
         }
         another("N163h10p99s000");
         weightIs(0, 1f / 4096f);
-        edge("promise 17", "(multiplied from the left), computed in float", "N113h10p99s000s001s002s003s004");
+        edge("promise 17", "(multiplied from the left), as K is 1, 2 or 3, computed in float", "N113h10p99s000s001s002s003s004");
         float w = (float) 5 / (float) 11;
         weightIs(0, w * w * w);
         edge("promise 17", "(number of cells that the filter has): not the summary, not the counters", "N041h10p99");
@@ -147,7 +147,7 @@ final class QuestionEdges extends Edge {
             due("the least int", x.plan(0, n, LEAST), OUTSIDE);
             due("the greatest int", x.plan(0, n, MOST), OUTSIDE);
         }
-        edge("promise 19", "UNKNOWN; OUTSIDE; UNKNOWN, in this order", "N081h10p99");
+        edge("promise 19", "Each method lists its errors in the order in which they are checked", "N081h10p99");
         due("no proxy, n, row, page", x.plan(1, 0, -1), UNKNOWN);
         due("n and page", x.plan(0, 0, 32), OUTSIDE);
         due("n and page", x.plan(0, 5, 99), OUTSIDE);
@@ -162,8 +162,8 @@ final class QuestionEdges extends Edge {
         due("page 8, then page 0", x.plan(0, 2, 800), 2 + 1 + 5 + 1);
         due("page 0, then page 8", x.plan(0, 2, 8), 2);
         due("a page of the shelf costs nothing", x.plan(0, 4, 0), 0);
-        edge("cost", "requests plus messages plus 5 times the number of fetches: false hits alone cost nothing more",
-                "N081h10p99p99p99p99s100s200s300");
+        edge("cost", "the number of requests plus the number of messages plus 5 times the number of fetches: false hits"
+                + " alone cost nothing more", "N081h10p99p99p99p99s100s200s300");
         due("three false hits and a fetch", x.plan(0, 1, 8), 3 + 5);
         edge("cost", "that it adds to the counts", "N081h10p91p91");
         askAll(0, 1, 2, 3);
@@ -423,7 +423,7 @@ final class QuestionEdges extends Edge {
     }
 
     private static void lostAmongFour() {
-        edge("promise 26", "that the page is fetched although another has it", "N081h10p99p99p99p99");
+        edge("promise 26", "that it does not happen that the page is fetched although another proxy has it", "N081h10p99p99p99p99");
         x.ask(1, 3);
         x.ask(2, 3);
         x.ask(3, 3);
