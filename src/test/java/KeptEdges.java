@@ -321,7 +321,8 @@ final class KeptEdges extends Edge {
         holds("much is changed", !Image.ofNet(x).equals(before));
         x.again(0);
         holds("all is as it was", Image.ofNet(x).equals(before));
-        edge("promise 29", "Each successful call of ask(), drop(), send(), threshold() and use() is an act: keep() is none", "N041p99");
+        edge("promise 29", "Each successful call of ask(), drop(), send(), threshold() and use() is an act: keep() is none",
+                "N041p99");
         x.ask(0, 0);
         x.keep(0);
         due("acts", x.count(11), 1);

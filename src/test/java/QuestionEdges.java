@@ -42,7 +42,8 @@ final class QuestionEdges extends Edge {
         }
         another("N163h10p99s000");
         weightIs(0, 1f / 4096f);
-        edge("promise 17", "(multiplied from the left), as K is 1, 2 or 3, computed in float", "N113h10p99s000s001s002s003s004");
+        edge("promise 17", "(multiplied from the left), as K is 1, 2 or 3, computed in float",
+                "N113h10p99s000s001s002s003s004");
         float w = (float) 5 / (float) 11;
         weightIs(0, w * w * w);
         edge("promise 17", "(number of cells that the filter has): not the summary, not the counters", "N041h10p99");
@@ -423,7 +424,8 @@ final class QuestionEdges extends Edge {
     }
 
     private static void lostAmongFour() {
-        edge("promise 26", "that it does not happen that the page is fetched although another proxy has it", "N081h10p99p99p99p99");
+        edge("promise 26", "that it does not happen that the page is fetched although another proxy has it",
+                "N081h10p99p99p99p99");
         x.ask(1, 3);
         x.ask(2, 3);
         x.ask(3, 3);

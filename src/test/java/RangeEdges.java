@@ -32,7 +32,8 @@ final class RangeEdges extends Edge {
      */
     private static void range(String name, String text, int least, int most, int error, Call call) {
         edge(name, "from " + least + " to " + most + ", else " + error, text);
-        long[] outside = {least - 1L, most + 1L, least - 2L, most + 2L, LEAST, MOST, least + 256L, least + 65536L, most - 256L};
+        long[] outside = {least - 1L, most + 1L, least - 2L, most + 2L, LEAST, MOST, least + 256L, least + 65536L,
+            most - 256L};
         for (long value : outside) {
             if (value >= LEAST && value <= MOST && (value < least || value > most)) {
                 another(text);
