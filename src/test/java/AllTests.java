@@ -15,6 +15,7 @@ public final class AllTests {
         RangeEdges.run();
         RefusalEdges.run();
         ModelTests.run();
+        ReadmeTests.run();
         System.out.println(Check.passed + " passed, " + Check.failed + " failed");
         if (Check.failed != 0) {
             System.exit(1);
